@@ -266,7 +266,7 @@ public final class ViewHall {
         wire.recycle(k);
     }
 
-    /** An ID as one int, so that IDs compare as ints do. */
+    /** An ID as one int, so that IDs compare as ints do; an ORDER's value names its message likewise. */
     private static int idOf(int number, int process) {
         return number * 8 + process;
     }
