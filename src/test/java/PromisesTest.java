@@ -1,229 +1,53 @@
 /** For each promise: ordinary inputs, the edges that the document names, and wrong inputs. */
-public final class PromisesTest {
-    private static final int HELLO = 0;
-    private static final int DATA = 1;
-    private static final int PROPOSE = 2;
-    private static final int REPLY = 3;
-    private static final int CUT = 4;
-    private static final int FILL = 5;
-    private static final int READY = 6;
-    private static final int INSTALL = 7;
-    private static final int BYE = 8;
-    private static final int FIFO = 0;
-    private static final int CAUSAL = 1;
-    private static final int AGREED = 2;
-    private static final int SAFE = 3;
-    private static final int ORDER = 4;
-
-    private static int wrong = 0;
-    private static String part = "";
-
-    private interface Call {
-        void run();
-    }
-
+public final class PromisesTest extends Checks {
     public static void main(String[] args) {
-        newObject();
-        begin();
-        beginAfterUse();
-        join();
-        leave();
-        crash();
-        send();
-        sendWindow();
-        sides();
-        tick();
-        turnGivesUp();
-        changeByHand();
-        messagesSaidAgain();
-        deliver();
-        elderPackets();
-        causal();
-        agreed();
-        safe();
-        orderWindow();
-        fill();
-        endOfView();
-        greatestApplied();
-        installSaidAgain();
-        lose();
-        go();
-        fullRow();
-        look();
-        packet();
-        about();
-        state();
-        stream();
-        event();
-        System.out.println(wrong == 0 ? "all promises hold" : wrong + " answers are not as due");
-        if (wrong != 0) {
-            System.exit(1);
-        }
-    }
-
-    private static void due(String call, long got, long want) {
-        if (got != want) {
-            wrong++;
-            System.out.println(part + ": " + call + " answered " + got + ", due is " + want);
-        }
-    }
-
-    private static void dueAll(String call, int[] got, int... want) {
-        due(call + " length", got.length, want.length);
-        for (int i = 0; i < Math.min(got.length, want.length); i++) {
-            due(call + " [" + i + "]", got[i], want[i]);
-        }
-    }
-
-    private static void throwing(String call, Class<?> want, Call run) {
-        Class<?> got = null;
-        try {
-            run.run();
-        } catch (RuntimeException e) {
-            got = e.getClass();
-        }
-        if (got != want) {
-            wrong++;
-            System.out.println(part + ": " + call + " threw " + got + ", due is " + want);
-        }
-    }
-
-    private static void argument(String call, Call run) {
-        throwing(call, IllegalArgumentException.class, run);
-    }
-
-    private static void standing(String call, Call run) {
-        throwing(call, IllegalStateException.class, run);
-    }
-
-    private static void index(String call, Call run) {
-        throwing(call, IndexOutOfBoundsException.class, run);
-    }
-
-    // ---- helpers that use the public face alone
-
-    private static void loseAll(ViewHall x) {
-        for (int left = x.look(3); left > 0; left--) {
-            x.lose(0);
-        }
-    }
-
-    /** n processes, all OPEN in one view of all, nothing under way. */
-    private static ViewHall formed(int n, int patience) {
-        ViewHall x = new ViewHall();
-        x.begin(n, patience);
-        for (int p = 0; p < n; p++) {
-            x.join(p);
-        }
-        x.go(40, 1, 0);
-        loseAll(x);
-        for (int p = 0; p < n; p++) {
-            due("members of " + p, x.about(p, 7), (1 << n) - 1);
-            due("mode of " + p, x.about(p, 10), 0);
-        }
-        return x;
-    }
-
-    private static int find(ViewHall x, int kind, int from, int to) {
-        for (int k = 0; k < x.look(3); k++) {
-            if (x.packet(k, 0) == kind && x.packet(k, 1) == from && x.packet(k, 2) == to) {
-                return k;
-            }
-        }
-        return -1;
-    }
-
-    private static boolean carry(ViewHall x, int kind, int from, int to) {
-        int k = find(x, kind, from, to);
-        due("packet of kind " + kind + " from " + from + " to " + to + " is there", k >= 0 ? 1 : 0, 1);
-        if (k >= 0) {
-            x.deliver(k);
-        }
-        return k >= 0;
-    }
-
-    private static int count(ViewHall x, int kind) {
-        int found = 0;
-        for (int k = 0; k < x.look(3); k++) {
-            found += x.packet(k, 0) == kind ? 1 : 0;
-        }
-        return found;
-    }
-
-    private static int[] body(ViewHall x, int k, int length) {
-        int[] body = new int[length];
-        for (int i = 0; i < length; i++) {
-            body[i] = x.packet(k, 9 + i);
-        }
-        return body;
-    }
-
-    private static int[] head(ViewHall x, int k) {
-        int[] head = new int[9];
-        for (int i = 0; i < 9; i++) {
-            head[i] = x.packet(k, i);
-        }
-        return head;
-    }
-
-    private static int[] event(ViewHall x, int p, int k) {
-        int[] row = new int[5];
-        for (int i = 0; i < 5; i++) {
-            row[i] = x.event(p, k, i);
-        }
-        return row;
-    }
-
-    private static int[] lastEvent(ViewHall x, int p) {
-        return event(x, p, x.about(p, 4) - 1);
-    }
-
-    /** Ticks on to the next even time, all HELLOs of which are delivered, all else lost. */
-    private static void hellos(ViewHall x) {
-        do {
-            x.tick();
-        } while (x.look(2) % 2 != 0);
-        while (x.look(3) > 0) {
-            if (x.packet(0, 0) == HELLO) {
-                x.deliver(0);
-            } else {
-                x.lose(0);
-            }
-        }
+        test("promise 1", PromisesTest::newObject);
+        test("promise 2", PromisesTest::begin);
+        test("promise 2, after use", PromisesTest::beginAfterUse);
+        test("promise 3", PromisesTest::join);
+        test("promise 4", PromisesTest::leave);
+        test("promise 5", PromisesTest::crash);
+        test("promise 6", PromisesTest::send);
+        test("promise 6, -1 and -2", PromisesTest::sendWindow);
+        test("promise 7", PromisesTest::sides);
+        test("promise 8", PromisesTest::tick);
+        test("promise 8, attempts", PromisesTest::turnGivesUp);
+        test("promises 8 and 9, a change", PromisesTest::changeByHand);
+        test("promise 8, DATA again", PromisesTest::messagesSaidAgain);
+        test("promise 9", PromisesTest::deliver);
+        test("promise 9, elder packets", PromisesTest::elderPackets);
+        test("promise 9, CAUSAL and FIFO", PromisesTest::causal);
+        test("promise 9, AGREED", PromisesTest::agreed);
+        test("promise 9, SAFE", PromisesTest::safe);
+        test("promise 9, the head's window", PromisesTest::orderWindow);
+        test("promise 9, FILL", PromisesTest::fill);
+        test("promise 9, the end of a view", PromisesTest::endOfView);
+        test("promise 9, what is told", PromisesTest::greatestApplied);
+        test("promise 8, INSTALL again", PromisesTest::installSaidAgain);
+        test("promise 10", PromisesTest::lose);
+        test("promise 11", PromisesTest::go);
+        test("promises 11 to 13, a full row", PromisesTest::fullRow);
+        test("promise 12", PromisesTest::look);
+        test("promise 13", PromisesTest::packet);
+        test("promise 14", PromisesTest::about);
+        test("promise 14, STATE", PromisesTest::state);
+        test("promise 15", PromisesTest::stream);
+        test("promise 16", PromisesTest::event);
+        finish();
     }
 
     // ---- promise 1
 
     private static void newObject() {
-        part = "promise 1";
         ViewHall x = new ViewHall();
         due("look(0)", x.look(0), 3);
         due("look(1)", x.look(1), 8);
         asAtFirst(x, 3);
     }
 
-    private static void asAtFirst(ViewHall x, int n) {
-        for (int what = 2; what < 5; what++) {
-            due("look(" + what + ")", x.look(what), 0);
-        }
-        for (int p = 0; p < n; p++) {
-            for (int what = 0; what < 24; what++) {
-                due("about(" + p + ", " + what + ")", x.about(p, what), 0);
-            }
-            for (int what = 0; what < 4; what++) {
-                due("stream(" + p + ", " + what + ", 0, 1)", x.stream(p, what, 0, 1), 0);
-            }
-            int q = p;
-            index("event(" + p + ", 0, 0)", () -> x.event(q, 0, 0));
-        }
-        argument("about(n, 0)", () -> x.about(n, 0));
-        index("packet(0, 0)", () -> x.packet(0, 0));
-    }
-
     // ---- promise 2
 
     private static void begin() {
-        part = "promise 2";
         ViewHall x = new ViewHall();
         x.begin(2, 30);
         x.join(1);
@@ -247,7 +71,6 @@ public final class PromisesTest {
 
     /** What a larger hall left behind in the object does not show. */
     private static void beginAfterUse() {
-        part = "promise 2, after use";
         ViewHall x = formed(3, 8);
         for (int i = 1; i <= 3; i++) {
             x.send(2, FIFO, i);
@@ -275,7 +98,6 @@ public final class PromisesTest {
     // ---- promise 3
 
     private static void join() {
-        part = "promise 3";
         ViewHall x = new ViewHall();
         argument("join(-1)", () -> x.join(-1));
         argument("join(3)", () -> x.join(3));
@@ -317,7 +139,6 @@ public final class PromisesTest {
     // ---- promise 4
 
     private static void leave() {
-        part = "promise 4";
         ViewHall x = formed(3, 8);
         x.crash(2);
         int serial = x.about(1, 3);
@@ -356,7 +177,6 @@ public final class PromisesTest {
     // ---- promise 5
 
     private static void crash() {
-        part = "promise 5";
         ViewHall x = formed(3, 8);
         argument("crash(-1)", () -> x.crash(-1));
         argument("crash(3)", () -> x.crash(3));
@@ -373,7 +193,6 @@ public final class PromisesTest {
     // ---- promise 6
 
     private static void send() {
-        part = "promise 6";
         ViewHall x = formed(3, 8);
         x.crash(2);
         argument("send(-1, 0, 0)", () -> x.send(-1, 0, 0));
@@ -399,7 +218,6 @@ public final class PromisesTest {
     }
 
     private static void sendWindow() {
-        part = "promise 6, -1 and -2";
         ViewHall x = formed(2, 8);
         for (int i = 1; i <= 8; i++) {
             due("send", x.send(1, FIFO, i), i);
@@ -428,7 +246,6 @@ public final class PromisesTest {
     // ---- promise 7
 
     private static void sides() {
-        part = "promise 7";
         ViewHall x = new ViewHall();
         x.part(5);
         due("side", x.about(0, 1), 2);
@@ -466,7 +283,6 @@ public final class PromisesTest {
     // ---- promise 8
 
     private static void tick() {
-        part = "promise 8";
         ViewHall x = new ViewHall();
         x.join(0);
         due("tick", x.tick(), 0);
@@ -494,7 +310,6 @@ public final class PromisesTest {
     }
 
     private static void turnGivesUp() {
-        part = "promise 8, attempts";
         ViewHall x = new ViewHall();
         x.begin(3, 6);
         for (int p = 0; p < 3; p++) {
@@ -547,7 +362,6 @@ public final class PromisesTest {
 
     /** A view of two made packet by packet. */
     private static void changeByHand() {
-        part = "promises 8 and 9, a change";
         ViewHall x = new ViewHall();
         x.join(0);
         x.join(1);
@@ -598,7 +412,6 @@ public final class PromisesTest {
     }
 
     private static void messagesSaidAgain() {
-        part = "promise 8, DATA again";
         ViewHall x = formed(3, 12);
         while (x.look(2) % 4 != 0) {
             hellos(x);
@@ -625,7 +438,6 @@ public final class PromisesTest {
     // ---- promise 9
 
     private static void deliver() {
-        part = "promise 9";
         ViewHall x = new ViewHall();
         index("deliver(0)", () -> x.deliver(0));
         x.join(0);
@@ -645,7 +457,6 @@ public final class PromisesTest {
 
     /** An elder packet is heard, but what a newer one told stays known; its number counts all the same. */
     private static void elderPackets() {
-        part = "promise 9, elder packets";
         ViewHall x = new ViewHall();
         x.begin(2, 6);
         x.join(0);
@@ -684,7 +495,6 @@ public final class PromisesTest {
     }
 
     private static void causal() {
-        part = "promise 9, CAUSAL and FIFO";
         ViewHall x = formed(3, 12);
         x.send(0, CAUSAL, 1);
         carry(x, DATA, 0, 1);
@@ -716,7 +526,6 @@ public final class PromisesTest {
     }
 
     private static void agreed() {
-        part = "promise 9, AGREED";
         ViewHall x = formed(3, 12);
         x.send(2, AGREED, 16);
         due("DONE", x.stream(2, 1, 2, 0), 0);
@@ -747,7 +556,6 @@ public final class PromisesTest {
     }
 
     private static void safe() {
-        part = "promise 9, SAFE";
         ViewHall x = formed(2, 30);
         x.send(1, SAFE, 16);
         carry(x, DATA, 1, 0);
@@ -802,7 +610,6 @@ public final class PromisesTest {
 
     /** The head posts no ORDER when 12 of its own are not stable; the next HELLOs set it going. */
     private static void orderWindow() {
-        part = "promise 9, the head's window";
         ViewHall x = formed(2, 30);
         for (int i = 1; i <= 7; i++) {
             due("send", x.send(0, FIFO, i), i);
@@ -823,7 +630,6 @@ public final class PromisesTest {
 
     /** What one has got of the crashed, the other gets before both install. */
     private static void fill() {
-        part = "promise 9, FILL";
         ViewHall x = formed(4, 6);
         x.send(3, FIFO, 1);
         x.send(3, FIFO, 2);
@@ -878,19 +684,8 @@ public final class PromisesTest {
         due("MEMBERS of 2", x.about(2, 7), 7);
     }
 
-    private static void loseOthers(ViewHall x, int kind) {
-        for (int k = 0; k < x.look(3);) {
-            if (x.packet(k, 0) == kind) {
-                k++;
-            } else {
-                x.lose(k);
-            }
-        }
-    }
-
     /** As a view ends SAFE is passed as AGREED, then what is in no order, but nothing that is not clear. */
     private static void endOfView() {
-        part = "promise 9, the end of a view";
         ViewHall x = formed(3, 6);
         // 2 has 1's SAFE message and no order for it; 1 has not 2's own message that it depends on.
         x.send(1, SAFE, 16);
@@ -929,7 +724,6 @@ public final class PromisesTest {
     }
 
     private static void greatestApplied() {
-        part = "promise 9, what is told";
         ViewHall x = new ViewHall();
         x.begin(3, 6);
         for (int p = 0; p < 3; p++) {
@@ -958,7 +752,6 @@ public final class PromisesTest {
 
     /** The INSTALL is lost: its maker says it again, the owner as it was told. */
     private static void installSaidAgain() {
-        part = "promise 8, INSTALL again";
         ViewHall x = formed(3, 6);
         x.send(2, AGREED, 2);
         x.go(10, 1, 0);
@@ -990,7 +783,6 @@ public final class PromisesTest {
     // ---- promise 10
 
     private static void lose() {
-        part = "promise 10";
         ViewHall x = new ViewHall();
         index("lose(0)", () -> x.lose(0));
         x.join(0);
@@ -1016,7 +808,6 @@ public final class PromisesTest {
     // ---- promise 11
 
     private static void go() {
-        part = "promise 11";
         ViewHall x = new ViewHall();
         x.join(0);
         argument("go(0, 1, 0)", () -> x.go(0, 1, 0));
@@ -1071,7 +862,6 @@ public final class PromisesTest {
 
     /** 600 packets are the most; one more is lost as it is sent, but counts. */
     private static void fullRow() {
-        part = "promises 11 to 13, a full row";
         ViewHall x = new ViewHall();
         x.begin(6, 6);
         for (int p = 0; p < 6; p++) {
@@ -1101,7 +891,6 @@ public final class PromisesTest {
     // ---- promise 12
 
     private static void look() {
-        part = "promise 12";
         ViewHall x = new ViewHall();
         argument("look(-1)", () -> x.look(-1));
         argument("look(5)", () -> x.look(5));
@@ -1120,7 +909,6 @@ public final class PromisesTest {
     // ---- promise 13
 
     private static void packet() {
-        part = "promise 13";
         ViewHall x = new ViewHall();
         index("packet(0, 99)", () -> x.packet(0, 99));
         x.join(0);
@@ -1172,7 +960,6 @@ public final class PromisesTest {
     // ---- promise 14
 
     private static void about() {
-        part = "promise 14";
         ViewHall x = formed(3, 8);
         argument("about(-1, 0)", () -> x.about(-1, 0));
         argument("about(3, 0)", () -> x.about(3, 0));
@@ -1196,7 +983,6 @@ public final class PromisesTest {
 
     /** What each value does to the STATE. */
     private static void state() {
-        part = "promise 14, STATE";
         ViewHall x = new ViewHall();
         x.join(1);
         x.send(1, AGREED, 5 << 4 | 3 << 2);
@@ -1239,7 +1025,6 @@ public final class PromisesTest {
     // ---- promise 15
 
     private static void stream() {
-        part = "promise 15";
         ViewHall x = formed(3, 8);
         argument("stream(-1, 0, 0, 0)", () -> x.stream(-1, 0, 0, 0));
         argument("stream(3, 0, 0, 0)", () -> x.stream(3, 0, 0, 0));
@@ -1286,7 +1071,6 @@ public final class PromisesTest {
     // ---- promise 16
 
     private static void event() {
-        part = "promise 16";
         ViewHall x = new ViewHall();
         argument("event(-1, 0, 0)", () -> x.event(-1, 0, 0));
         argument("event(3, 0, 0)", () -> x.event(3, 0, 0));
