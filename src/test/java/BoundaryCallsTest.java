@@ -558,18 +558,9 @@ public final class BoundaryCallsTest extends Checks {
         outside(x, INDEX, name, 0, x.look(3) - 1, call.of(x));
         call.of(x).accept(x.look(3) - 1);
         call.of(x).accept(0);
-        ViewHall full = fullHall();
+        ViewHall full = filling(42);
         outside(full, INDEX, name + " of a full row", 0, 599, call.of(full));
         call.of(full).accept(599);
-    }
-
-    private static ViewHall fullHall() {
-        ViewHall x = joined(6, 30);
-        for (int i = 0; i < 42; i++) {
-            x.tick();
-        }
-        due("a full row", x.look(3), 600);
-        return x;
     }
 
     private static void deliverEnds() {
@@ -589,9 +580,7 @@ public final class BoundaryCallsTest extends Checks {
     }
 
     private static void loseEnds() {
-        ViewHall x = joined(3, 30);
-        x.tick();
-        x.tick();
+        ViewHall x = saidHello(3, 30);
         int[] one = all(x);
         x.lose(5);
         due("packets", x.look(3), 5);
@@ -633,9 +622,7 @@ public final class BoundaryCallsTest extends Checks {
 
     /** One HELLO of 0 for 1 is under way since TIME 2. */
     private static ViewHall oneUnderWay() {
-        ViewHall x = joined(2, 30);
-        x.tick();
-        x.tick();
+        ViewHall x = saidHello(2, 30);
         x.lose(1);
         due("for", x.packet(0, 2), 1);
         return x;
@@ -871,9 +858,7 @@ public final class BoundaryCallsTest extends Checks {
         carry(x, READY, 2, 0);
         dueAll("it is over", attempt(x, 0), 0, 0, 0, 0);
         // Given up, for 1 hears 0, which is less.
-        ViewHall y = joined(3, 30);
-        y.tick();
-        y.tick();
+        ViewHall y = saidHello(3, 30);
         carry(y, HELLO, 2, 1);
         y.tick();
         dueAll("with one", attempt(y, 1), 1, 6, 2, 0);

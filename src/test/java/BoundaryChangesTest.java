@@ -116,11 +116,6 @@ public final class BoundaryChangesTest extends Checks {
         return x.about(p, 12);
     }
 
-    private static void promise(ViewHall x, int p, int number, int process) {
-        due("PROMISE of " + p + ", number", x.about(p, 8), number);
-        due("PROMISE of " + p + ", process", x.about(p, 9), process);
-    }
-
     /** No packet is sent, and the modes stay. */
     private static void nothingComesOf(ViewHall x, int kind, int from, int to) {
         int sent = x.look(4);
@@ -132,14 +127,6 @@ public final class BoundaryChangesTest extends Checks {
         due("MODE", mode(x, to), mode);
         due("PROMISE", x.about(to, 8), number);
         due("events", x.about(to, 4), events);
-    }
-
-    /** Joined, at TIME 2, when all have said HELLO. */
-    private static ViewHall saidHello(int n, int patience) {
-        ViewHall x = joined(n, patience);
-        x.tick();
-        x.tick();
-        return x;
     }
 
     // ---- to promise

@@ -92,20 +92,13 @@ public final class BoundaryHallTest extends Checks {
 
     /** 0 proposes (2, 0) to 2, and 1 proposes (2, 1) to 2; TIME is 3. */
     private static ViewHall twoProposals() {
-        ViewHall x = joined(3, 30);
-        x.tick();
-        x.tick();
+        ViewHall x = saidHello(3, 30);
         carry(x, HELLO, 2, 0);
         carry(x, HELLO, 2, 1);
         loseAll(x);
         x.tick();
         due("PROPOSEs", count(x, PROPOSE), 2);
         return x;
-    }
-
-    private static void promise(ViewHall x, int p, int number, int process) {
-        due("PROMISE of " + p + ", number", x.about(p, 8), number);
-        due("PROMISE of " + p + ", process", x.about(p, 9), process);
     }
 
     private static void idsByNumber() {
@@ -289,15 +282,6 @@ public final class BoundaryHallTest extends Checks {
         due("the youngest stays so", x.packet(15, 3), 6);
     }
 
-    /** Six processes that have said 30 HELLOs each second tick; the row is full at TIME 40. */
-    private static ViewHall filling(int ticks) {
-        ViewHall x = joined(6, 30);
-        for (int i = 0; i < ticks; i++) {
-            x.tick();
-        }
-        return x;
-    }
-
     private static void sixHundred() {
         ViewHall x = filling(39);
         due("packets", x.look(3), 570);
@@ -348,13 +332,6 @@ public final class BoundaryHallTest extends Checks {
 
     // ---- delivering
 
-    private static ViewHall saidHello(int n) {
-        ViewHall x = joined(n, 30);
-        x.tick();
-        x.tick();
-        return x;
-    }
-
     private static void differentSides() {
         ViewHall x = joined(3, 30);
         x.crash(0);
@@ -383,7 +360,7 @@ public final class BoundaryHallTest extends Checks {
     }
 
     private static void receiverOut() {
-        ViewHall x = saidHello(2);
+        ViewHall x = saidHello(2, 30);
         x.tick();
         x.tick();
         x.crash(1);
@@ -397,11 +374,11 @@ public final class BoundaryHallTest extends Checks {
     }
 
     private static void senderOut() {
-        ViewHall x = saidHello(2);
+        ViewHall x = saidHello(2, 30);
         x.crash(0);
         carry(x, HELLO, 0, 1);
         due("reached", x.about(1, 11), 3);
-        ViewHall y = saidHello(2);
+        ViewHall y = saidHello(2, 30);
         y.crash(0);
         y.part(1);
         carry(y, HELLO, 0, 1);

@@ -177,6 +177,23 @@ abstract class Checks {
         return x;
     }
 
+    /** Joined, at TIME 2, when all have said HELLO. */
+    static ViewHall saidHello(int n, int patience) {
+        ViewHall x = joined(n, patience);
+        x.tick();
+        x.tick();
+        return x;
+    }
+
+    /** Six processes that say 30 HELLOs each second tick, none of which comes: the row is full at TIME 40. */
+    static ViewHall filling(int ticks) {
+        ViewHall x = joined(6, 30);
+        for (int i = 0; i < ticks; i++) {
+            x.tick();
+        }
+        return x;
+    }
+
     /** n processes, all OPEN in one view of all, nothing under way; TIME is 40. */
     static ViewHall formed(int n, int patience) {
         ViewHall x = joined(n, patience);
@@ -191,9 +208,7 @@ abstract class Checks {
 
     /** n processes, each in a view of its own; 0 has heard all and proposes to them; TIME is 3. */
     static ViewHall proposing(int n) {
-        ViewHall x = joined(n, 30);
-        x.tick();
-        x.tick();
+        ViewHall x = saidHello(n, 30);
         for (int p = 1; p < n; p++) {
             carry(x, HELLO, p, 0);
         }
@@ -313,6 +328,11 @@ abstract class Checks {
             x.deliver(k);
         }
         return k >= 0;
+    }
+
+    static void promise(ViewHall x, int p, int number, int process) {
+        due("PROMISE of " + p + ", number", x.about(p, 8), number);
+        due("PROMISE of " + p + ", process", x.about(p, 9), process);
     }
 
     static int count(ViewHall x, int kind) {
