@@ -15,6 +15,7 @@ public final class BoundaryChangesTest extends Checks {
     private static void promises() {
         test("To PROMISE: an elder attempt that it has is given up", BoundaryChangesTest::promiseEndsAttempt);
         test("To PROMISE: what is behind a gap it has no more", BoundaryChangesTest::promiseDropsBehindGap);
+        test("To PROMISE: behind a gap, whatever its number", BoundaryChangesTest::promiseDropsAnyNumber);
     }
 
     private static void attempts() {
@@ -166,6 +167,35 @@ public final class BoundaryChangesTest extends Checks {
         due("GOT after the first", x.stream(2, 0, 3, 0), 1);
         carry(x, FILL, 1, 2);
         due("GOT after both", x.stream(2, 0, 3, 0), 2);
+    }
+
+    /** 2 lacks 0's last but one message and has the last; 1 has both and proposes. */
+    private static void promiseDropsAnyNumber() {
+        for (int last = 2; last <= 18; last++) {
+            ViewHall x = formed(3, 30);
+            for (int i = 1; i <= last - 2; i++) {
+                x.send(0, FIFO, i);
+                carry(x, DATA, 0, 1);
+                carry(x, DATA, 0, 2);
+                hellos(x);
+            }
+            x.send(0, FIFO, last - 1);
+            due("send", x.send(0, FIFO, last), last);
+            carry(x, DATA, 0, 1);
+            carry(x, DATA, 0, 1);
+            carryLast(x, DATA, 0, 2);
+            x.leave(0);
+            carry(x, BYE, 0, 1);
+            loseAll(x);
+            x.tick();
+            carry(x, PROPOSE, 1, 2);
+            carry(x, REPLY, 2, 1);
+            due("FILLs", count(x, FILL), 2);
+            carry(x, FILL, 1, 2);
+            due("GOT without the last", x.stream(2, 0, 0, 0), last - 1);
+            carry(x, FILL, 1, 2);
+            due("GOT", x.stream(2, 0, 0, 0), last);
+        }
     }
 
     // ---- a
