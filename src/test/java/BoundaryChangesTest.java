@@ -93,6 +93,8 @@ public final class BoundaryChangesTest extends Checks {
         test("READY ahead of its own", BoundaryChangesTest::readyAheadOfOwn);
         test("the greatest APPLIED is TOLD", BoundaryChangesTest::greatestTold);
         test("of these the least process", BoundaryChangesTest::leastOfGreatest);
+        test("the END of that one in S: not of one in an elder attempt's", BoundaryChangesTest::toldInSet);
+        test("READY (APPLIED, OWNER, CELLS), INSTALL (S, APPLIED, OWNER, CELLS)", BoundaryChangesTest::wholeState);
         test("the OWNER -1 if it is not in S", BoundaryChangesTest::ownerNotIn);
         test("the OWNER stays if it is in S", BoundaryChangesTest::ownerIn);
         test("VIEW is PROMISE, MEMBERS S, MODE 0", BoundaryChangesTest::installed);
@@ -107,27 +109,6 @@ public final class BoundaryChangesTest extends Checks {
         test("A view ENDS: SAFE that is not clear", () -> unclearAtEnd(SAFE, false));
         test("A view ENDS: FIFO that is not clear", () -> unclearAtEnd(FIFO, true));
         test("A view ENDS: the front of the least u", BoundaryChangesTest::leastAtEnd);
-    }
-
-    private static int mode(ViewHall x, int p) {
-        return x.about(p, 10);
-    }
-
-    private static int phase(ViewHall x, int p) {
-        return x.about(p, 12);
-    }
-
-    /** No packet is sent, and the modes stay. */
-    private static void nothingComesOf(ViewHall x, int kind, int from, int to) {
-        int sent = x.look(4);
-        int mode = mode(x, to);
-        int number = x.about(to, 8);
-        int events = x.about(to, 4);
-        carry(x, kind, from, to);
-        due("sent", x.look(4), sent);
-        due("MODE", mode(x, to), mode);
-        due("PROMISE", x.about(to, 8), number);
-        due("events", x.about(to, 4), events);
     }
 
     // ---- to promise
@@ -564,19 +545,6 @@ public final class BoundaryChangesTest extends Checks {
         due("STABLE", x.about(0, 16), 3);
         tickTo(x, 4);
         due("no DATA when all is stable", count(x, DATA), 0);
-    }
-
-    /** 0 has installed a view of three, at TIME 3; both INSTALLs are under way. */
-    private static ViewHall installing() {
-        ViewHall x = proposing(3);
-        replyAll(x);
-        for (int p = 1; p <= 2; p++) {
-            carry(x, CUT, 0, p);
-            carry(x, READY, p, 0);
-        }
-        due("MODE of 0", mode(x, 0), 0);
-        due("INSTALLs", count(x, INSTALL), 2);
-        return x;
     }
 
     private static void installAgain() {
@@ -1198,6 +1166,47 @@ public final class BoundaryChangesTest extends Checks {
         told(2, 2, merged(1, 2, 2));
         told(1, 2, merged(2, 1, 2));
         told(0, 0, merged(0, 0, 0));
+    }
+
+    /** In a first view 2's END is told; 0 and 1 are OUT then, and join anew without it. */
+    private static void toldInSet() {
+        ViewHall x = joined(3, 6);
+        for (int i = 0; i < 5; i++) {
+            x.send(2, AGREED, 16);
+        }
+        x.go(40, 1, 0);
+        due("APPLIED", x.about(0, 18), 5);
+        for (int p = 0; p <= 2; p++) {
+            x.crash(p);
+        }
+        x.join(0);
+        x.join(1);
+        x.go(40, 1, 0);
+        due("MEMBERS", x.about(0, 7), 3);
+        due("APPLIED", x.about(0, 18), 0);
+        due("CELL", x.about(0, 20), 0);
+    }
+
+    private static void wholeState() {
+        ViewHall x = saidHello(2, 30);
+        for (int c = 0; c < 4; c++) {
+            x.send(1, AGREED, (c + 5) << 4 | c << 2);
+        }
+        x.send(1, AGREED, 2);
+        carry(x, HELLO, 1, 0);
+        loseAll(x);
+        x.tick();
+        replyAll(x);
+        carry(x, CUT, 0, 1);
+        dueAll("READY", body(x, find(x, READY, 1, 0), 7), 5, 1, 5, 6, 7, 8, 0);
+        carry(x, READY, 1, 0);
+        dueAll("INSTALL", body(x, find(x, INSTALL, 0, 1), 8), 3, 5, 1, 5, 6, 7, 8, 0);
+        carry(x, INSTALL, 0, 1);
+        for (int p = 0; p <= 1; p++) {
+            for (int what = 18; what <= 23; what++) {
+                due("STATE of " + p, x.about(p, what), new int[] {5, 1, 5, 6, 7, 8}[what - 18]);
+            }
+        }
     }
 
     /** Three in a view, the owner being p; then the last process leaves, and 0 installs a view of the rest. */

@@ -28,6 +28,7 @@ public final class BoundaryStreamsTest extends Checks {
 
     private static void posting() {
         test("ORDERS: when GOT u passes an ORDER message", BoundaryStreamsTest::entryWhenGot);
+        test("ORDERS: of every message that one lacks", BoundaryStreamsTest::manyEntries);
         test("ORDERS: value 8 * n + v", BoundaryStreamsTest::orderValue);
         test("POST: its PAST N numbers of DONE", BoundaryStreamsTest::past);
         test("POST: DATA to all other members", BoundaryStreamsTest::dataToMembers);
@@ -72,25 +73,6 @@ public final class BoundaryStreamsTest extends Checks {
         test("3: there is none any more if u is it", BoundaryStreamsTest::ownerGone);
         test("AGREED and SAFE messages alone change it", BoundaryStreamsTest::stateByOrdered);
         test("STATE by the least and the greatest value", BoundaryStreamsTest::stateOfExtremes);
-    }
-
-    private static int got(ViewHall x, int p, int u) {
-        return x.stream(p, 0, u, 0);
-    }
-
-    private static int done(ViewHall x, int p, int u) {
-        return x.stream(p, 1, u, 0);
-    }
-
-    /** Delivers the DATA with this number. */
-    private static void carryData(ViewHall x, int from, int to, int number) {
-        for (int k = 0; k < x.look(3); k++) {
-            if (x.packet(k, 0) == DATA && x.packet(k, 1) == from && x.packet(k, 2) == to && x.packet(k, 9) == number) {
-                x.deliver(k);
-                return;
-            }
-        }
-        due("DATA " + number + " from " + from + " to " + to + " is there", 0, 1);
     }
 
     /** The HELLOs of the next even TIME come, and all that was or is sent besides is lost. */
@@ -377,6 +359,51 @@ public final class BoundaryStreamsTest extends Checks {
         carry(x, DATA, 1, 2);
         due("ORDERS", x.about(2, 17), 0);
         due("DONE", done(x, 2, 1), 1);
+    }
+
+    /** 1 to 5 send all they may, and only the head gets it; of the head come its ORDERs to all, with HELLOs. */
+    private static void manyEntries() {
+        ViewHall x = formed(6, 30);
+        for (int p = 1; p <= 5; p++) {
+            for (int i = 1; i <= 8; i++) {
+                due("send", x.send(p, AGREED, 1), i);
+                carryData(x, p, 0, i);
+            }
+        }
+        loseAll(x);
+        for (int i = 0; i < 20; i++) {
+            x.tick();
+            while (x.look(3) > 0) {
+                boolean comes = x.packet(0, 0) == HELLO || x.packet(0, 0) == DATA && x.packet(0, 1) == 0;
+                if (comes) {
+                    x.deliver(0);
+                } else {
+                    x.lose(0);
+                }
+            }
+        }
+        due("ORDERS of the head", x.about(0, 17), 0);
+        due("ORDERS of 1, which has its own", x.about(1, 17), 32);
+        due("ORDERS of 5", x.about(5, 17), 40);
+        for (int i = 0; i < 4; i++) {
+            due("send of the head", x.send(0, AGREED, 1), 41 + 2 * i);
+            carryData(x, 0, 5, 41 + 2 * i);
+            carryData(x, 0, 5, 42 + 2 * i);
+        }
+        due("ORDERS of 5", x.about(5, 17), 44);
+        sameOrder(x, 44);
+    }
+
+    /** All that is lacking comes, and each process has delivered so many messages in the head's order. */
+    private static void sameOrder(ViewHall x, int messages) {
+        x.go(20, 1, 0);
+        for (int p = 0; p < x.look(0); p++) {
+            due("APPLIED of " + p, x.about(p, 18), messages);
+            due("ORDERS of " + p, x.about(p, 17), 0);
+            for (int i = 1; i <= messages; i++) {
+                dueAll("delivery " + i + " of " + p, event(x, p, x.about(p, 4) - i), event(x, 0, x.about(0, 4) - i));
+            }
+        }
     }
 
     private static void orderValue() {

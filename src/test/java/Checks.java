@@ -254,6 +254,19 @@ abstract class Checks {
         due("phase of 0", x.about(0, 12), 2);
     }
 
+    /** 0 has installed a view of three, at TIME 3; both INSTALLs are under way. */
+    static ViewHall installing() {
+        ViewHall x = proposing(3);
+        replyAll(x);
+        for (int p = 1; p <= 2; p++) {
+            carry(x, CUT, 0, p);
+            carry(x, READY, p, 0);
+        }
+        due("MODE of 0", mode(x, 0), 0);
+        due("INSTALLs", count(x, INSTALL), 2);
+        return x;
+    }
+
     /** A hall of n in the middle of things: messages, packets of several kinds, and one process that left. */
     static ViewHall busy(int n) {
         ViewHall x = formed(n, 7);
@@ -328,6 +341,46 @@ abstract class Checks {
             x.deliver(k);
         }
         return k >= 0;
+    }
+
+    /** Delivers the DATA with this number. */
+    static void carryData(ViewHall x, int from, int to, int number) {
+        for (int k = 0; k < x.look(3); k++) {
+            if (x.packet(k, 0) == DATA && x.packet(k, 1) == from && x.packet(k, 2) == to && x.packet(k, 9) == number) {
+                x.deliver(k);
+                return;
+            }
+        }
+        due("DATA " + number + " from " + from + " to " + to + " is there", 0, 1);
+    }
+
+    /** No packet is sent, and the modes stay. */
+    static void nothingComesOf(ViewHall x, int kind, int from, int to) {
+        int sent = x.look(4);
+        int mode = mode(x, to);
+        int number = x.about(to, 8);
+        int events = x.about(to, 4);
+        carry(x, kind, from, to);
+        due("sent", x.look(4), sent);
+        due("MODE", mode(x, to), mode);
+        due("PROMISE", x.about(to, 8), number);
+        due("events", x.about(to, 4), events);
+    }
+
+    static int mode(ViewHall x, int p) {
+        return x.about(p, 10);
+    }
+
+    static int phase(ViewHall x, int p) {
+        return x.about(p, 12);
+    }
+
+    static int got(ViewHall x, int p, int u) {
+        return x.stream(p, 0, u, 0);
+    }
+
+    static int done(ViewHall x, int p, int u) {
+        return x.stream(p, 1, u, 0);
     }
 
     static void promise(ViewHall x, int p, int number, int process) {
