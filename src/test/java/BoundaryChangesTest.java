@@ -114,17 +114,7 @@ public final class BoundaryChangesTest extends Checks {
     // ---- to promise
 
     private static void promiseEndsAttempt() {
-        ViewHall x = joined(3, 30);
-        x.crash(0);
-        x.join(0);
-        x.tick();
-        x.tick();
-        carry(x, HELLO, 2, 1);
-        carry(x, HELLO, 1, 0);
-        x.tick();
-        due("phase of 1", phase(x, 1), 1);
-        promise(x, 1, 2, 1);
-        promise(x, 0, 3, 0);
+        ViewHall x = rivals();
         carry(x, PROPOSE, 0, 1);
         due("phase of 1", phase(x, 1), 0);
         due("S of 1", x.about(1, 13), 0);
@@ -480,14 +470,7 @@ public final class BoundaryChangesTest extends Checks {
             due("FILLs at " + time, count(x, FILL), time % 4 == 0 ? 4 : 0);
         }
         // In MODE 2, too: 0 has the first, which 2 lacks, and waits for the second.
-        ViewHall y = formed(4, 30);
-        y.send(3, FIFO, 1);
-        y.send(3, FIFO, 2);
-        carry(y, DATA, 3, 1);
-        carry(y, DATA, 3, 1);
-        carry(y, DATA, 3, 0);
-        leaveLast(y);
-        replyAll(y);
+        ViewHall y = partlyLacking();
         due("MODE of 0", mode(y, 0), 2);
         for (int time = 42; time <= 48; time++) {
             loseAll(y);

@@ -254,6 +254,35 @@ abstract class Checks {
         due("phase of 0", x.about(0, 12), 2);
     }
 
+    /** 0 has 3's first message, 1 has both, 2 none; 3 left, and 0 has cut off. TIME is 41. */
+    static ViewHall partlyLacking() {
+        ViewHall x = formed(4, 30);
+        x.send(3, FIFO, 1);
+        x.send(3, FIFO, 2);
+        carry(x, DATA, 3, 1);
+        carry(x, DATA, 3, 1);
+        carry(x, DATA, 3, 0);
+        leaveLast(x);
+        replyAll(x);
+        return x;
+    }
+
+    /** Three, each alone: 1 has proposed (2, 1) to 2, and 0 then (3, 0), which is above it, to 1; TIME is 3. */
+    static ViewHall rivals() {
+        ViewHall x = joined(3, 30);
+        x.crash(0);
+        x.join(0);
+        x.tick();
+        x.tick();
+        carry(x, HELLO, 2, 1);
+        carry(x, HELLO, 1, 0);
+        x.tick();
+        due("phase of 1", phase(x, 1), 1);
+        promise(x, 1, 2, 1);
+        promise(x, 0, 3, 0);
+        return x;
+    }
+
     /** 0 has installed a view of three, at TIME 3; both INSTALLs are under way. */
     static ViewHall installing() {
         ViewHall x = proposing(3);

@@ -295,19 +295,6 @@ public final class StepsTest extends Checks {
         dueAll("HELLO", head(x, find(x, HELLO, 0, 1)), HELLO, 0, 1, 42, x.about(0, 3), number + 1, 0, number + 1, 0);
     }
 
-    /** 0 has 3's first message, 1 has both, 2 none; 3 left, and 0 has cut off. TIME is 41. */
-    private static ViewHall partlyLacking() {
-        ViewHall x = formed(4, 30);
-        x.send(3, FIFO, 1);
-        x.send(3, FIFO, 2);
-        carry(x, DATA, 3, 1);
-        carry(x, DATA, 3, 1);
-        carry(x, DATA, 3, 0);
-        leaveLast(x);
-        replyAll(x);
-        return x;
-    }
-
     private static void cutsAheadOfFills() {
         ViewHall x = partlyLacking();
         tickTo(x, 4);
@@ -347,19 +334,11 @@ public final class StepsTest extends Checks {
     // ---- changes
 
     private static void promisesInPhaseTwo() {
-        ViewHall x = joined(3, 30);
-        x.crash(0);
-        x.join(0);
-        x.tick();
-        x.tick();
-        carry(x, HELLO, 2, 1);
-        carry(x, HELLO, 1, 0);
-        x.tick();
+        ViewHall x = rivals();
         carry(x, PROPOSE, 1, 2);
         carry(x, REPLY, 2, 1);
         due("phase of 1", phase(x, 1), 2);
         due("MODE of 1", mode(x, 1), 3);
-        promise(x, 0, 3, 0);
         carry(x, PROPOSE, 0, 1);
         due("phase of 1", phase(x, 1), 0);
         due("MODE of 1", mode(x, 1), 1);
